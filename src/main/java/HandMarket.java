@@ -182,8 +182,7 @@ public final class HandMarket {
         if (side < 0 || side > 1 || !town.isHand(a)) {
             return BAD;
         }
-        courtship.weigh(town);
-        courtship.court(side);
+        courtship.court(town, side);
         return orNone(courtship.mate[a]);
     }
 
@@ -191,8 +190,7 @@ public final class HandMarket {
         if (what < 0 || what > 3) {
             return BAD;
         }
-        courtship.weigh(town);
-        courtship.court(what / 2);
+        courtship.court(town, what / 2);
         return what % 2 == 0 ? courtship.pairs() : courtship.allLikes();
     }
 
@@ -201,12 +199,8 @@ public final class HandMarket {
         if (what != 0 && !town.isHand(a)) {
             return BAD;
         }
-        courtship.weigh(town);
-        if (what == 0) {
-            return courtship.countHolding();
-        }
-        courtship.court(0);
-        return courtship.countHoldingWith(a, courtship.mate[a]);
+        courtship.court(town, 0);
+        return what == 0 ? courtship.countHolding() : courtship.countHoldingWith(a, courtship.mate[a]);
     }
 
     public int most(int what) {
@@ -230,7 +224,7 @@ public final class HandMarket {
     }
 
     public int alone() {
-        courtLefts(town);
+        courtship.court(town, 0);
         return courtship.present & ~courtship.matedBits();
     }
 
@@ -294,7 +288,7 @@ public final class HandMarket {
                 continue;
             }
             trial.pen[a] = p;
-            courtLefts(trial);
+            courtship.court(trial, 0);
             int mate = courtship.mate[a];
             int liking = mate == NOBODY ? NOBODY : courtship.liking(a, mate);
             if (bestPen == NOBODY || liking > bestLiking) {
@@ -311,7 +305,7 @@ public final class HandMarket {
             return BAD;
         }
         trial.become(town);
-        courtLefts(trial);
+        courtship.court(trial, 0);
         int most = courtship.allLikes();
         int pair = NONE;
         for (int a = 0; a < HANDS; a++) {
@@ -404,14 +398,14 @@ public final class HandMarket {
             trial.pen[a] = trial.byOrder(drawn(state) % size);
             // only the sum asks for the pairs on the way
             if (what == 1) {
-                courtLefts(trial);
+                courtship.court(trial, 0);
                 likesInAll += courtship.allLikes();
             }
         }
         if (what == 1) {
             return likesInAll;
         }
-        courtLefts(trial);
+        courtship.court(trial, 0);
         return courtship.pairs();
     }
 
@@ -537,14 +531,9 @@ public final class HandMarket {
         return was;
     }
 
-    private void courtLefts(Town of) {
-        courtship.weigh(of);
-        courtship.court(0);
-    }
-
     private int likesIfSwapped(int a, int b) {
         trial.swapPens(a, b);
-        courtLefts(trial);
+        courtship.court(trial, 0);
         trial.swapPens(a, b);
         return courtship.allLikes();
     }
@@ -699,7 +688,7 @@ public final class HandMarket {
         }
 
         boolean isHand(int a) {
-            return isLeft(a) || isRight(a);
+            return a >= 0 && a < lefts || a >= SIDE && a < SIDE + rights;
         }
 
         static boolean sameSide(int a, int b) {
@@ -946,7 +935,6 @@ public final class HandMarket {
         int place;
         int lines;
         private int toldPens;
-        private int named;
 
         Scribe(Tape tape) {
             this.tape = tape;
@@ -958,14 +946,13 @@ public final class HandMarket {
             place = 0;
             lines = 0;
             toldPens = 0;
-            named = 0;
             tape.rewind();
             tape.advance();
             for (int i = 0; i < Tape.LENGTH && tape.token != Tape.END && line(); i++) {
                 lines++;
                 tape.advance();
             }
-            if (fault == 0 && (named & ~draft.handBits()) != 0) {
+            if (fault == 0 && (namedBits() & ~draft.handBits()) != 0) {
                 fault = 6;
                 place = tape.size;
             }
@@ -1027,14 +1014,14 @@ public final class HandMarket {
         }
 
         private boolean penLine() {
-            int a = handNumber(0, HANDS - 1);
+            int a = number(0, HANDS - 1);
             if (a == REFUSED) {
                 return false;
             }
             if ((toldPens >> a & 1) == 1) {
                 return refuse(4);
             }
-            int pen = handNumber(0, HANDS - 1);
+            int pen = number(0, HANDS - 1);
             if (pen == REFUSED) {
                 return false;
             }
@@ -1044,7 +1031,7 @@ public final class HandMarket {
         }
 
         private boolean runLine() {
-            int a = handNumber(0, HANDS - 1);
+            int a = number(0, HANDS - 1);
             if (a == REFUSED) {
                 return false;
             }
@@ -1056,8 +1043,8 @@ public final class HandMarket {
         }
 
         private boolean foldLine() {
-            int a = handNumber(0, SIDE - 1);
-            int b = a == REFUSED ? REFUSED : handNumber(SIDE, HANDS - 1);
+            int a = number(0, SIDE - 1);
+            int b = a == REFUSED ? REFUSED : number(SIDE, HANDS - 1);
             if (b == REFUSED) {
                 return false;
             }
@@ -1069,14 +1056,14 @@ public final class HandMarket {
         }
 
         private boolean wedLine() {
-            int a = handNumber(0, SIDE - 1);
+            int a = number(0, SIDE - 1);
             if (a == REFUSED) {
                 return false;
             }
             if (draft.isWed(a)) {
                 return refuse(4);
             }
-            int b = handNumber(SIDE, HANDS - 1);
+            int b = number(SIDE, HANDS - 1);
             if (b == REFUSED) {
                 return false;
             }
@@ -1087,17 +1074,21 @@ public final class HandMarket {
             return follows(Tape.STOP);
         }
 
-        /** Whether there is such a HAND can be told only behind all, so it is noted. */
-        private int handNumber(int low, int high) {
-            int a = number(low, high);
-            if (a != REFUSED) {
-                named |= 1 << a;
+        /** All HANDS of whom a line tells, be there such or not. */
+        private int namedBits() {
+            int bits = toldPens | draft.runBits | draft.wedBits();
+            for (int a = 0; a < HANDS; a++) {
+                bits |= draft.folded[a];
+                if ((toldPens >> a & 1) == 1) {
+                    bits |= 1 << draft.pen[a];
+                }
             }
-            return a;
+            return bits;
         }
 
         private int number(int low, int high) {
-            if (!follows(Tape.NUMBER)) {
+            tape.advance();
+            if (!stands(Tape.NUMBER)) {
                 return REFUSED;
             }
             if (tape.value < low || tape.value > high) {
@@ -1140,11 +1131,12 @@ public final class HandMarket {
         /** The greater, the rather; no two wishes of one HAND are alike. */
         final int[] wish = new int[HANDS * HANDS];
         final int[] mate = new int[HANDS];
-        final int[] tried = new int[HANDS];
+        /** For each HAND the bits of those whom it has not asked. */
+        final int[] untried = new int[HANDS];
         final int[] bestMate = new int[HANDS];
         int present;
 
-        /** Must go ahead of all else here, whenever the town is another. */
+        /** Goes ahead of all else here, as the town may have changed. */
         void weigh(Town town) {
             present = town.handBits();
             Arrays.fill(wish, WISH_NEVER);
@@ -1211,7 +1203,8 @@ public final class HandMarket {
             return above;
         }
 
-        void court(int side) {
+        void court(Town town, int side) {
+            weigh(town);
             int lefts = present & LEFT_BITS;
             int rights = present & RIGHT_BITS;
             if (side == 0) {
@@ -1223,21 +1216,21 @@ public final class HandMarket {
 
         void ask(int askers, int others) {
             Arrays.fill(mate, NOBODY);
-            Arrays.fill(tried, 0);
+            Arrays.fill(untried, others);
             int asks = 0;
-            while (asks < MOST_ASKS && firstAsks(askers, others)) {
+            while (asks < MOST_ASKS && firstAsks(askers)) {
                 asks++;
             }
         }
 
-        private boolean firstAsks(int askers, int others) {
+        private boolean firstAsks(int askers) {
             for (int a = 0; a < HANDS; a++) {
                 if ((askers >> a & 1) == 0 || mate[a] != NOBODY) {
                     continue;
                 }
-                int b = dearest(a, others & ~tried[a]);
+                int b = dearest(a, untried[a]);
                 if (b != NOBODY) {
-                    tried[a] |= 1 << b;
+                    untried[a] &= ~(1 << b);
                     answer(a, b);
                     return true;
                 }
@@ -1247,9 +1240,12 @@ public final class HandMarket {
 
         private int dearest(int a, int among) {
             int best = NOBODY;
-            for (int b = 0; b < HANDS; b++) {
-                if ((among >> b & 1) == 1 && wishFor(a, b) > wishFor(a, best)) {
+            int most = WISH_NOBODY;
+            int first = a < SIDE ? SIDE : 0;
+            for (int b = first; b < first + SIDE; b++) {
+                if ((among >> b & 1) == 1 && wish[a * HANDS + b] > most) {
                     best = b;
+                    most = wish[a * HANDS + b];
                 }
             }
             return best;

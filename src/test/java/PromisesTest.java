@@ -186,6 +186,7 @@ public final class PromisesTest {
         refused("left", 2, 0);
         refused("plai left 1 1 1;", 2, 0);
         refused("plainn left 1 1 1;", 2, 0);
+        refused("slain left 1 1 1;", 2, 0);
         refused("plain up 1 1 1;", 2, 6);
         refused("plain 1", 2, 6);
         refused("plain plain", 2, 6);
@@ -208,6 +209,7 @@ public final class PromisesTest {
         refused("fold 0 8;", 3, 7);
         refused("wed 4 4;", 3, 4);
         refused("wed 0 3;", 3, 6);
+        refused("wed 0 8;", 3, 6);
         refused("pen 0 0;pen 0 %", 4, 12);
         refused("run 7;run 7%", 4, 10);
         refused("fold 0 4;fold 1 4;fold 0 5;fold 0 4;", 4, 34);
@@ -360,6 +362,8 @@ public final class PromisesTest {
 
     private void alter() {
         fresh(TOWN);
+        alterTo(0, 0, 0, 0);
+        alterTo(0, 3, 0, 0);
         alterTo(0, 0, 3, 0);
         alterTo(0, 0, 4, BAD);
         alterTo(0, 0, -1, BAD);
@@ -777,6 +781,8 @@ public final class PromisesTest {
         is("n 60", x.drift(1, 60, 0), 1);
         is("what -1", x.drift(1, 1, -1), BAD);
         is("what 2", x.drift(1, 1, 2), BAD);
+        fresh("vain left 1 1 1;");
+        is("one HAND", x.drift(1, 1, 0), 0);
         x = new HandMarket();
         is("no HANDS", x.drift(1, 1, 0), STATE);
         is("wrong first", x.drift(1, 0, 0), BAD);
