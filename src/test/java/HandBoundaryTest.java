@@ -189,10 +189,11 @@ public final class HandBoundaryTest extends Boundary {
         // 3 is ahead of 4, but not of its side
         fresh(STROKES);
         x.run(3, true);
-        is("LOOPS of 3", x.page(3, 0), 8);
-        is("LOOPS of 4", x.page(4, 0), 9);
+        row("page(3, #)", 0, (m, what) -> m.page(3, what), 8, 9, 0);
+        row("page(4, #)", 0, (m, what) -> m.page(4, what), 9, 1, 0);
         x.run(7, true);
-        is("LOOPS of 7", x.page(7, 0), 8);
+        row("page(7, #)", 0, (m, what) -> m.page(7, what), 8, 9, 0);
+        row("page(0, #)", 0, (m, what) -> m.page(0, what), 9, 1, 0);
     }
 
     @Sentence("A PAGE shows LOOPS, BARS, LEAN of its PEN; one that is RUN and the next one of its side (if there is one) show "

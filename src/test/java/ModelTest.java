@@ -45,7 +45,10 @@ public final class ModelTest {
 
     private void same(String call, long got, long want) {
         calls++;
-        due.is("run " + run + ", call " + calls + ": " + call, got, want);
+        // what an object answers behind its 512th call is free
+        if (calls <= CALLS) {
+            due.is("run " + run + ", call " + calls + ": " + call, got, want);
+        }
     }
 
     private void feedAll(String text) {

@@ -148,6 +148,20 @@ public final class PairBoundaryTest extends Boundary {
         row("hold(#)", 10, (m, what) -> m.hold(what), 2, 2, 2, 2, 2, 2, 2, 2);
     }
 
+    @Sentence("How many PAIRS (as a whole) HOLD (what 0), in how many of these a HAND is with the one with whom it is by ASKING "
+        + "of LEFTS (10 and a). BAD.")
+    void holdingByAskingOfLefts() {
+        // 0 5, 1 4 by ASKING of LEFTS; 0 4, 1 5 HOLD too, and are ahead of these by numbers
+        fresh("vain left 0 6 0;plain left 2 3 0;vain right 1 6 0;plain right 7 3 0;");
+        row("asked(0, #)", 0, (m, a) -> m.asked(0, a), 5, 4);
+        is("both HOLD", x.hold(0), 2);
+        row("hold(#)", 10, (m, what) -> m.hold(what), 1, 1);
+        // by LEFTS 0 4, 1 6, 2 5, by RIGHTS 0 6, 1 5, 2 4; between them 0 5, 1 6, 2 4
+        fresh("plain left 4 3 0;vain left 1 0 0;vain left 3 9 0;vain right 5 2 0;plain right 6 2 0;plain right 8 4 0;pen 1 4;");
+        is("three HOLD", x.hold(0), 3);
+        row("hold(#)", 10, (m, what) -> m.hold(what), 1, 2, 1, BAD, 1, 1, 2, BAD);
+    }
+
     @Sentence("PAIRS as a whole by which all LIKES of both, summed, are most: that sum (what 0); 10 and a LEFT: with whom it is "
         + "by the first such (by LEFTS, each with nobody ahead of RIGHTS by numbers; NONE: with nobody). BAD.")
     void mostLikes() {

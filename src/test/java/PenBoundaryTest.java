@@ -176,6 +176,9 @@ public final class PenBoundaryTest extends Boundary {
         row("as 3, being the lesser HAND: forge(0, #)", 0, (m, what) -> m.forge(0, what), 3, 7);
         x.alter(3, 4, 7);
         row("by the last HAND's PEN alone: forge(0, #)", 0, (m, what) -> m.forge(0, what), 7, 7);
+        // were RIGHTS to ask, 4 would be with 1 by the PEN of 0 already
+        fresh(RING);
+        row("as LEFTS ask: forge(4, #)", 0, (m, what) -> m.forge(4, what), 1, 1);
     }
 
     @Sentence("Two HANDS that are to change PENS so that by ASKING of LEFTS there are most LIKES in all, more than now: 10 times "
@@ -201,6 +204,23 @@ public final class PenBoundaryTest extends Boundary {
         row("of several the least: swap(#)", 0, (m, what) -> m.swap(what), 46, 18);
         fresh(handsOf(4, 4));
         row("all are in PAIRS and all are vain: swap(#)", 0, (m, what) -> m.swap(what), NONE, NONE);
+    }
+
+    @Sentence("Two HANDS that are to change PENS so that by ASKING of LEFTS there are most LIKES in all, more than now: 10 times "
+        + "the lesser and the greater, of several the least (what 0), these LIKES (1). BAD; NONE: by none.")
+    void changedPensByAskingOfLefts() {
+        fresh("vain left 5 3 0;plain right 0 4 0;pen 4 0;");
+        row("one PEN for both, and none of HANDS that there are not: swap(#)", 0, (m, what) -> m.swap(what), NONE, NONE);
+        fresh(RING);
+        row("the first two: swap(#)", 0, (m, what) -> m.swap(what), 1, 80);
+        // by 0 and 5 there are 58 too, were RIGHTS to ask
+        fresh("vain left 5 6 0;plain left 2 5 0;vain right 4 8 0;plain right 7 1 0;pen 1 4;");
+        row("LEFTS ask then: swap(#)", 0, (m, what) -> m.swap(what), 15, 58);
+        fresh("trembler left 4 4 0;vain left 3 5 0;plain left 1 2 1;trembler right 5 1 0;plain right 2 4 0;"
+            + "taught right 5 2 1;pen 0 6;");
+        is("by LEFTS now", x.sum(1), 83);
+        is("by RIGHTS now", x.sum(3), 92);
+        row("LEFTS ask now: swap(#)", 0, (m, what) -> m.swap(what), 14, 92);
     }
 
     // ---- promises 29 to 32

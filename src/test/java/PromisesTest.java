@@ -84,6 +84,12 @@ public final class PromisesTest {
         is("bytes behind " + text, x.count(2), 0);
     }
 
+    /** A new object for each, as one is used for at most 512 calls. */
+    private void newRefuses(String text, int fault, int place) {
+        x = new HandMarket();
+        refused(text, fault, place);
+    }
+
     private void newObject() {
         x = new HandMarket();
         for (int what = 0; what <= 4; what++) {
@@ -173,60 +179,59 @@ public final class PromisesTest {
     }
 
     private void textFaults() {
-        x = new HandMarket();
-        refused("%", 1, 0);
-        refused("plain left 1 1 1;Run 0;", 1, 17);
-        refused("run\t0;", 1, 3);
-        refused("run 000;", 1, 4);
-        refused("123", 1, 0);
-        refused("plain left 1 %", 1, 13);
-        refused("clerk left 1 1 1;", 2, 0);
-        refused(";", 2, 0);
-        refused("5", 2, 0);
-        refused("left", 2, 0);
-        refused("plai left 1 1 1;", 2, 0);
-        refused("plainn left 1 1 1;", 2, 0);
-        refused("slain left 1 1 1;", 2, 0);
-        refused("plain up 1 1 1;", 2, 6);
-        refused("plain 1", 2, 6);
-        refused("plain plain", 2, 6);
-        refused("plain left left", 2, 11);
-        refused("plain left 1 1 1 1;", 2, 17);
-        refused("plain left 1 1 1", 2, 16);
-        refused("plain left 1 1 1  ", 2, 18);
-        refused("plain", 2, 5);
-        refused("pen 0;", 2, 5);
-        refused("run;", 2, 3);
-        refused("fold 0 4 4", 2, 9);
-        refused("plain left 10 1 1;", 3, 11);
-        refused("plain left 1 10 1;", 3, 13);
-        refused("plain left 1 1 3;", 3, 15);
-        refused("pen 8 0;", 3, 4);
-        refused("pen 0 8;", 3, 6);
-        refused("run 8;", 3, 4);
-        refused("fold 4 4;", 3, 5);
-        refused("fold 0 3;", 3, 7);
-        refused("fold 0 8;", 3, 7);
-        refused("wed 4 4;", 3, 4);
-        refused("wed 0 3;", 3, 6);
-        refused("wed 0 8;", 3, 6);
-        refused("pen 0 0;pen 0 %", 4, 12);
-        refused("run 7;run 7%", 4, 10);
-        refused("fold 0 4;fold 1 4;fold 0 5;fold 0 4;", 4, 34);
-        refused("wed 0 4;wed 0 9", 4, 12);
-        refused("wed 0 4;wed 1 4", 4, 14);
+        newRefuses("%", 1, 0);
+        newRefuses("plain left 1 1 1;Run 0;", 1, 17);
+        newRefuses("run\t0;", 1, 3);
+        newRefuses("run 000;", 1, 4);
+        newRefuses("123", 1, 0);
+        newRefuses("plain left 1 %", 1, 13);
+        newRefuses("clerk left 1 1 1;", 2, 0);
+        newRefuses(";", 2, 0);
+        newRefuses("5", 2, 0);
+        newRefuses("left", 2, 0);
+        newRefuses("plai left 1 1 1;", 2, 0);
+        newRefuses("plainn left 1 1 1;", 2, 0);
+        newRefuses("slain left 1 1 1;", 2, 0);
+        newRefuses("plain up 1 1 1;", 2, 6);
+        newRefuses("plain 1", 2, 6);
+        newRefuses("plain plain", 2, 6);
+        newRefuses("plain left left", 2, 11);
+        newRefuses("plain left 1 1 1 1;", 2, 17);
+        newRefuses("plain left 1 1 1", 2, 16);
+        newRefuses("plain left 1 1 1  ", 2, 18);
+        newRefuses("plain", 2, 5);
+        newRefuses("pen 0;", 2, 5);
+        newRefuses("run;", 2, 3);
+        newRefuses("fold 0 4 4", 2, 9);
+        newRefuses("plain left 10 1 1;", 3, 11);
+        newRefuses("plain left 1 10 1;", 3, 13);
+        newRefuses("plain left 1 1 3;", 3, 15);
+        newRefuses("pen 8 0;", 3, 4);
+        newRefuses("pen 0 8;", 3, 6);
+        newRefuses("run 8;", 3, 4);
+        newRefuses("fold 4 4;", 3, 5);
+        newRefuses("fold 0 3;", 3, 7);
+        newRefuses("fold 0 8;", 3, 7);
+        newRefuses("wed 4 4;", 3, 4);
+        newRefuses("wed 0 3;", 3, 6);
+        newRefuses("wed 0 8;", 3, 6);
+        newRefuses("pen 0 0;pen 0 %", 4, 12);
+        newRefuses("run 7;run 7%", 4, 10);
+        newRefuses("fold 0 4;fold 1 4;fold 0 5;fold 0 4;", 4, 34);
+        newRefuses("wed 0 4;wed 0 9", 4, 12);
+        newRefuses("wed 0 4;wed 1 4", 4, 14);
         String lefts = "vain left 1 1 1;vain left 1 1 1;vain left 1 1 1;vain left 1 1 1;";
-        refused(lefts + "vain left %", 5, 69);
-        refused(lefts.replace("left", "right") + "vain right 99", 5, 73);
-        refused("run 0;", 6, 6);
-        refused("run 0;  ", 6, 8);
-        refused("plain left 1 1 1;pen 0 1;", 6, 25);
-        refused("plain left 1 1 1;pen 1 0;", 6, 25);
-        refused("plain left 1 1 1;fold 0 4;", 6, 26);
-        refused("plain right 1 1 1;fold 0 4;", 6, 27);
-        refused("plain left 1 1 1;wed 0 4;", 6, 25);
-        refused("plain right 1 1 1;wed 0 4;", 6, 26);
-        refused("run 0;clerk", 2, 6);
+        newRefuses(lefts + "vain left %", 5, 69);
+        newRefuses(lefts.replace("left", "right") + "vain right 99", 5, 73);
+        newRefuses("run 0;", 6, 6);
+        newRefuses("run 0;  ", 6, 8);
+        newRefuses("plain left 1 1 1;pen 0 1;", 6, 25);
+        newRefuses("plain left 1 1 1;pen 1 0;", 6, 25);
+        newRefuses("plain left 1 1 1;fold 0 4;", 6, 26);
+        newRefuses("plain right 1 1 1;fold 0 4;", 6, 27);
+        newRefuses("plain left 1 1 1;wed 0 4;", 6, 25);
+        newRefuses("plain right 1 1 1;wed 0 4;", 6, 26);
+        newRefuses("run 0;clerk", 2, 6);
     }
 
     private void textRefusedChangesNothing() {

@@ -405,6 +405,37 @@ public final class TapeBoundaryTest extends Boundary {
         faulty("run 7;run 8;", 3, 10);
     }
 
+    @Sentence("FAULTS, the first met as it is read (a TOKEN is read when the one before has been taken):")
+    void whateverComesBehindTheFirstFault() {
+        String[] later = {" %", " 000", " clerk", " 7", " ;", ";;", " run 9;", "; run 0;run 0;", "; run 7;"};
+        for (String line : LINES) {
+            String[] tokens = line.split(" ");
+            for (int i = 0; i < tokens.length; i++) {
+                String ahead = upTo(tokens, i);
+                for (String behind : later) {
+                    faulty(ahead + "%" + behind, 1, ahead.length());
+                    faulty(ahead + "1000" + behind, 1, ahead.length());
+                    faulty(ahead + "clerk" + behind, 2, ahead.length());
+                    if (Character.isDigit(tokens[i].charAt(0))) {
+                        faulty(ahead + ";" + behind, 2, ahead.length());
+                        faulty(ahead + "99" + behind, 3, ahead.length());
+                    } else {
+                        faulty(ahead + "7" + behind, 2, ahead.length());
+                    }
+                }
+            }
+        }
+        for (String behind : later) {
+            faulty("run 0;run 0" + behind, 4, 10);
+            faulty("pen 0 0;pen 0" + behind, 4, 12);
+            faulty("fold 0 4;fold 0 4" + behind, 4, 16);
+            faulty("wed 0 4;wed 0" + behind, 4, 12);
+            faulty("wed 0 4;wed 1 4" + behind, 4, 14);
+            faulty("vain left 1 1 1;".repeat(4) + "vain left" + behind, 5, 69);
+            faulty("vain right 1 1 1;".repeat(4) + "vain right" + behind, 5, 73);
+        }
+    }
+
     @Sentence("Behind all (the length): 6 a HAND that there is not.")
     void aHandThatThereIsNot() {
         for (int lefts = 0; lefts <= 3; lefts++) {
