@@ -411,6 +411,10 @@ public final class HandBoundaryTest extends Boundary {
         fresh(TOWN);
         x.fold(2, 5, false);
         is("FOLDED no more", x.wed(2, 5), 2);
+        x.fold(1, 5, true);
+        x.part(5);
+        is("FOLDED just now", x.wed(1, 5), STATE);
+        is("none but 0 and 4", x.count(4), 1);
     }
 
     @Sentence("A HAND is WED no more: with whom it was. BAD; STATE: it is not.")

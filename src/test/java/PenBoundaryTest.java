@@ -380,7 +380,8 @@ public final class PenBoundaryTest extends Boundary {
         + "in the end (what 0), all LIKES in them behind each, summed (1). BAD; STATE: there are no HANDS.")
     void driftWrapsAround() {
         for (int seed : new int[] {0, 1, -1, 2, 65535, 65536, 1 << 30, MOST, MOST - 1, LEAST, LEAST + 1}) {
-            for (String town : new String[] {TOWN, handsOf(1, 3), handsOf(4, 4)}) {
+            // where 1 and 5 are FOLDED, both are alone whenever 0 is with 4
+            for (String town : new String[] {TOWN, handsOf(1, 3), handsOf(4, 4), RING + "fold 1 5;"}) {
                 for (int n : new int[] {1, 2, 59, 60}) {
                     driftIs(town, seed, n);
                 }
